@@ -513,7 +513,7 @@ public final class MeshedPages {
     }
 
     public int probes() {
-        return ruling().worth(PROBES, now.pages, 0, 0);
+        return ruling().probesIn(now.pages);
     }
 
     public boolean meshes(int a, int b) {
@@ -766,7 +766,7 @@ public final class MeshedPages {
         int framesUsed() {
             int bits = 0;
             for (int page = 0; page < PAGE_COUNT; page++) {
-                if (isPage(frameOf[page])) {
+                if (frameOf[page] != NONE) {
                     bits |= 1 << frameOf[page];
                 }
             }
@@ -792,11 +792,11 @@ public final class MeshedPages {
         }
 
         int sparseFrames() {
-            int used = framesUsed();
             int bits = 0;
             for (int frame = 0; frame < PAGE_COUNT; frame++) {
-                if ((used >> frame & 1) == 1 && frame != goes && frame != stays
-                        && Integer.bitCount(liveIn(frame)) <= SPARSE_SLOTS) {
+                int slots = Integer.bitCount(liveIn(frame));
+                // A frame with pages has a live slot: pages without any are closed.
+                if (slots > 0 && slots <= SPARSE_SLOTS && frame != goes && frame != stays) {
                     bits |= 1 << frame;
                 }
             }
@@ -878,7 +878,6 @@ public final class MeshedPages {
                 return NONE;
             }
             frameOf[page] = frame;
-            live[page] = 0;
             int base = page * SLOT_COUNT;
             for (int i = 0; i < SLOT_COUNT; i++) {
                 vectors[base + i] = i;
@@ -994,7 +993,6 @@ public final class MeshedPages {
             boolean second = secondGoes(a, b);
             goes = second ? frameOf[b] : frameOf[a];
             stays = second ? frameOf[a] : frameOf[b];
-            moved = 0;
             writeDown(FENCED, goes, stays);
             return slotsToMove();
         }
@@ -1051,7 +1049,7 @@ public final class MeshedPages {
         }
 
         int compactBy(Text law) {
-            int probes = law.worth(PROBES, this, 0, 0);
+            int probes = law.probesIn(this);
             int half = drawSparse() / 2;
             int done = 0;
             int count = 0;
@@ -1256,26 +1254,24 @@ public final class MeshedPages {
             }
         }
 
-        /** What a law says now, or is without; what probes says is kept in its bounds. */
+        int probesIn(Pages pages) {
+            return Math.max(0, Math.min(MOST_PROBES, worth(PROBES, pages, 0, 0)));
+        }
+
+        /** What a law says now, or is without. Jumps go on alone, so that no code is come to twice. */
         int worth(int law, Pages pages, int one, int other) {
             if (!hasLaw(law)) {
                 return law == PROBES ? PROBES_WITHOUT : MESHES_WITHOUT;
             }
-            names[0] = pages.day;
-            names[1] = Integer.bitCount(pages.openPages());
-            names[2] = Integer.bitCount(pages.framesUsed());
-            names[3] = one;
-            names[4] = other;
-            names[5] = law == PROBES ? Integer.bitCount(pages.sparseFrames()) : 0;
-            int said = run(starts[law], ends[law], pages);
-            return law == PROBES ? Math.max(0, Math.min(MOST_PROBES, said)) : said;
-        }
-
-        /** Jumps go on alone, so that no code is come to twice. */
-        private int run(int start, int end, Pages pages) {
+            names[NAME_TIME - NAME_TIME] = pages.day;
+            names[NAME_PAGES - NAME_TIME] = Integer.bitCount(pages.openPages());
+            names[NAME_FRAMES - NAME_TIME] = Integer.bitCount(pages.framesUsed());
+            names[NAME_ONE - NAME_TIME] = one;
+            names[NAME_OTHER - NAME_TIME] = other;
+            names[NAME_SPARSE - NAME_TIME] = law == PROBES ? Integer.bitCount(pages.sparseFrames()) : 0;
             int top = 0;
-            int next = start;
-            for (int step = 0; step < TAPE_BYTES && next >= 0 && next < end && next < TAPE_BYTES; step++) {
+            int next = starts[law];
+            for (int step = 0; step < TAPE_BYTES && next >= 0 && next < ends[law] && next < TAPE_BYTES; step++) {
                 int code = codes[next];
                 int number = numbers[next];
                 next++;
@@ -1298,7 +1294,7 @@ public final class MeshedPages {
                             top++;
                         } else if (top >= 2) {
                             top--;
-                            stack[top - 1] = joined(code, stack[top - 1], stack[top]);
+                            stack[top - 1] = limited(joined(code, stack[top - 1], stack[top]));
                         }
                         break;
                 }
@@ -1311,20 +1307,21 @@ public final class MeshedPages {
         }
 
         private static int turned(int code, int worth, Pages pages) {
+            boolean page = worth >= 0 && worth < PAGE_COUNT;
             switch (code) {
                 case NOT: return worth == 0 ? 1 : 0;
                 case NEGATE: return -worth;
-                case LIVE: return isPage(worth) ? Integer.bitCount(pages.live[worth]) : 0;
-                case PLACE: return isPage(worth) ? pages.frameOf[worth] + 1 : 0;
+                case LIVE: return page ? Integer.bitCount(pages.live[worth]) : 0;
+                case PLACE: return page ? pages.frameOf[worth] + 1 : 0;
                 default: return worth;
             }
         }
 
-        private static int joined(int code, int a, int b) {
+        private static long joined(int code, int a, int b) {
             switch (code) {
-                case PLUS: return limited((long) a + b);
-                case MINUS: return limited((long) a - b);
-                case TIMES: return limited((long) a * b);
+                case PLUS: return (long) a + b;
+                case MINUS: return (long) a - b;
+                case TIMES: return (long) a * b;
                 case BY: return b == 0 ? 0 : a / b;
                 case OR: return a | b;
                 case AND: return a & b;
@@ -1383,7 +1380,7 @@ public final class MeshedPages {
             count = 0;
             for (int i = 0; i < size; i++) {
                 if (tape[i] != 32 && tape[i] != 10) {
-                    i = scanToken(i);
+                    i = Math.max(i, scanToken(i));
                 }
             }
         }
@@ -1772,26 +1769,58 @@ public final class MeshedPages {
     private static final class Cover {
         private int count = 0;
         private int fewest = 0;
+        private int least = 0;
+        private final int[] frames = new int[PAGE_COUNT];
         private final int[] lives = new int[PAGE_COUNT];
         private final int[] groups = new int[PAGE_COUNT];
 
         int fewestFor(Pages pages) {
-            count = 0;
             for (int frame = 0; frame < PAGE_COUNT; frame++) {
-                int live = pages.liveIn(frame);
-                if (live != 0) {
-                    lives[count] = live;
-                    count++;
-                }
+                frames[frame] = pages.liveIn(frame);
+            }
+            count = 0;
+            // Those that clash with most come first: they leave the fewest ways.
+            for (int clashes = PAGE_COUNT; clashes >= 1; clashes--) {
+                takeWith(clashes);
             }
             fewest = count;
+            least = mostOnOneSlot();
             place(0, 0);
             return fewest;
         }
 
+        private void takeWith(int clashes) {
+            for (int frame = 0; frame < PAGE_COUNT; frame++) {
+                if (clashesOf(frames[frame]) == clashes && count < PAGE_COUNT) {
+                    lives[count] = frames[frame];
+                    count++;
+                }
+            }
+        }
+
+        /** How many frames have one of these slots, itself among them; none without slots. */
+        private int clashesOf(int live) {
+            int clashes = 0;
+            for (int frame = 0; frame < PAGE_COUNT; frame++) {
+                if ((frames[frame] & live) != 0) {
+                    clashes++;
+                }
+            }
+            return clashes;
+        }
+
+        /** Frames that have one slot all clash: no way has fewer groups. */
+        private int mostOnOneSlot() {
+            int most = 0;
+            for (int slot = 0; slot < SLOT_COUNT; slot++) {
+                most = Math.max(most, clashesOf(1 << slot));
+            }
+            return most;
+        }
+
         /** No deeper than there are frames; ways that can't be fewer are left. */
         private void place(int i, int used) {
-            if (used >= fewest) {
+            if (used >= fewest || fewest <= least) {
                 return;
             }
             if (i >= count || i >= PAGE_COUNT) {
