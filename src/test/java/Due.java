@@ -2,6 +2,7 @@
 final class Due {
     private static int asked = 0;
     private static int wrong = 0;
+    private static String sentence = "";
 
     private Due() {
     }
@@ -11,13 +12,22 @@ final class Due {
         if (got != want) {
             wrong++;
             if (wrong <= 50) {
-                System.out.println(call + " answered " + got + ", due is " + want);
+                System.out.println(sentence + call + " answered " + got + ", due is " + want);
             }
         }
     }
 
     static void is(String call, boolean got, boolean want) {
         is(call, got ? 1 : 0, want ? 1 : 0);
+    }
+
+    /** The test of one sentence, which must ask something. */
+    static void sentence(String words, Runnable test) {
+        int before = asked;
+        sentence = words + ": ";
+        test.run();
+        sentence = "";
+        holds("asks of " + words, asked > before);
     }
 
     static void holds(String what, boolean so) {

@@ -47,7 +47,7 @@ public final class PromiseTest {
         Due.end();
     }
 
-    private static void feed(MeshedPages pages, String text) {
+    private static void feed(Used pages, String text) {
         pages.end(0);
         for (int i = 0; i < text.length(); i += 20) {
             int[] words = new int[5];
@@ -59,13 +59,13 @@ public final class PromiseTest {
         Due.is("the tape has " + text, pages.end(text.length()), text.length());
     }
 
-    private static int say(MeshedPages pages, String text) {
+    private static int say(Used pages, String text) {
         feed(pages, text);
         return pages.text();
     }
 
-    private static MeshedPages with(int gives) {
-        MeshedPages pages = new MeshedPages();
+    private static Used with(int gives) {
+        Used pages = new Used();
         for (int i = 0; i < gives; i++) {
             pages.give(i);
         }
@@ -73,8 +73,8 @@ public final class PromiseTest {
     }
 
     /** A page for each array, in a frame of its own, of which just these slots are live. */
-    private static MeshedPages withSlots(int[]... slots) {
-        MeshedPages pages = with(16 * slots.length);
+    private static Used withSlots(int[]... slots) {
+        Used pages = with(16 * slots.length);
         for (int page = 0; page < slots.length; page++) {
             int stay = 0;
             for (int slot : slots[page]) {
@@ -94,7 +94,7 @@ public final class PromiseTest {
     }
 
     private static void madeAndFed() {
-        MeshedPages pages = new MeshedPages();
+        Used pages = new Used();
         for (int page = 0; page < 12; page++) {
             Due.is("new page " + page, pages.page(page, 0), NONE);
             Due.is("new page's slots", pages.page(page, 1), 0);
@@ -133,7 +133,7 @@ public final class PromiseTest {
     }
 
     private static void read() {
-        MeshedPages pages = new MeshedPages();
+        Used pages = new Used();
         Due.is("fault(0) ahead of any", pages.fault(0), NONE);
         Due.is("fault(1) ahead of any", pages.fault(1), NONE);
         Due.is("the empty text", pages.text(), 0);
@@ -152,7 +152,7 @@ public final class PromiseTest {
         Due.is("about(0)", pages.about(0), 4);
         feed(pages, "!");
         Due.is("the fifth text", pages.text(), NONE);
-        MeshedPages other = new MeshedPages();
+        Used other = new Used();
         for (int i = 0; i < 8; i++) {
             Due.is("a long text with a fault", say(other, "probes 1" + "+1".repeat(145)), NONE);
         }
@@ -171,7 +171,7 @@ public final class PromiseTest {
     }
 
     private static void faulty(String text, int fault, int place) {
-        MeshedPages pages = new MeshedPages();
+        Used pages = new Used();
         Due.is("text of " + text, say(pages, text), fault == 0 ? 0 : NONE);
         Due.is("fault of " + text, pages.fault(0), fault);
         Due.is("place of " + text, pages.fault(1), place);
@@ -292,7 +292,7 @@ public final class PromiseTest {
     }
 
     private static void ruled() {
-        MeshedPages pages = new MeshedPages();
+        Used pages = new Used();
         Due.is("by(0) of none", pages.by(0), false);
         Due.is("by(NONE)", pages.by(NONE), true);
         say(pages, "probes 7;");
@@ -316,7 +316,7 @@ public final class PromiseTest {
     }
 
     private static void given() {
-        MeshedPages pages = new MeshedPages();
+        Used pages = new Used();
         for (int value : new int[] {-1, 1000, Integer.MIN_VALUE, Integer.MAX_VALUE}) {
             Due.is("give(" + value + ")", pages.give(value), NONE);
         }
@@ -349,7 +349,7 @@ public final class PromiseTest {
     }
 
     private static void freed() {
-        MeshedPages pages = with(3);
+        Used pages = with(3);
         Due.is("free(0), not live", pages.free(0), NONE);
         for (int address : FAR) {
             Due.is("free(" + address + ")", pages.free(address), NONE);
@@ -372,7 +372,7 @@ public final class PromiseTest {
     }
 
     private static void written() {
-        MeshedPages pages = with(1);
+        Used pages = with(1);
         Due.is("write(1, 999)", pages.write(1, 999), true);
         Due.is("at(1)", pages.at(1), 999);
         Due.is("write(1, 0)", pages.write(1, 0), true);
@@ -392,7 +392,7 @@ public final class PromiseTest {
     }
 
     private static void meshed() {
-        MeshedPages pages = withSlots(slots(0, 1, 2), slots(3, 4), slots(2, 5), slots(6));
+        Used pages = withSlots(slots(0, 1, 2), slots(3, 4), slots(2, 5), slots(6));
         int third = pages.at(19);
         Due.is("clashing", pages.mesh(0, 2), NONE);
         Due.is("itself", pages.mesh(0, 0), NONE);
@@ -428,7 +428,7 @@ public final class PromiseTest {
     private static final int VALUE_OF_SLOT_0 = 7;
 
     private static void meshedTheOtherWay() {
-        MeshedPages pages = withSlots(slots(0), slots(3, 4), slots(5, 6));
+        Used pages = withSlots(slots(0), slots(3, 4), slots(5, 6));
         Due.is("fewer here", pages.mesh(0, 1), 1);
         Due.is("into the second one's", pages.page(0, 0), 1);
         Due.is("its value", pages.at(0), VALUE_OF_SLOT_0);
@@ -445,7 +445,7 @@ public final class PromiseTest {
     }
 
     private static void fenced() {
-        MeshedPages pages = withSlots(slots(0, 1, 2), slots(3, 4), slots(6), slots(0), slots(8, 9));
+        Used pages = withSlots(slots(0, 1, 2), slots(3, 4), slots(6), slots(0), slots(8, 9));
         Due.is("clashing", pages.fence(0, 3), NONE);
         Due.is("itself", pages.fence(1, 1), NONE);
         Due.is("a new one", pages.fence(0, 7), NONE);
@@ -487,7 +487,7 @@ public final class PromiseTest {
     }
 
     private static void fencedFrameThatEmpties() {
-        MeshedPages pages = withSlots(slots(1, 6), slots(10), slots(0));
+        Used pages = withSlots(slots(1, 6), slots(10), slots(0));
         Due.is("fence(0, 1)", pages.fence(0, 1), 1);
         pages.free(1);
         pages.free(6);
@@ -516,7 +516,7 @@ public final class PromiseTest {
     }
 
     private static void moved() {
-        MeshedPages pages = withSlots(slots(0, 1, 2, 3), slots(7, 9, 12));
+        Used pages = withSlots(slots(0, 1, 2, 3), slots(7, 9, 12));
         Due.is("move() of none", pages.move(), NONE);
         pages.fence(0, 1);
         Due.is("first", pages.move(), 2);
@@ -543,7 +543,7 @@ public final class PromiseTest {
     }
 
     private static void lifted() {
-        MeshedPages pages = withSlots(slots(0, 1, 2, 3), slots(7, 9, 12));
+        Used pages = withSlots(slots(0, 1, 2, 3), slots(7, 9, 12));
         Due.is("lift() of none", pages.lift(), false);
         pages.fence(0, 1);
         pages.move();
@@ -560,7 +560,7 @@ public final class PromiseTest {
     }
 
     private static void compacted() {
-        MeshedPages pages = new MeshedPages();
+        Used pages = new Used();
         Due.is("compact() of none", pages.compact(), 0);
         Due.is("it is a step", pages.about(2), 1);
         Due.is("without draws", pages.is(1), 503);
@@ -593,7 +593,7 @@ public final class PromiseTest {
     }
 
     private static void probed() {
-        MeshedPages pages = withSlots(slots(0), slots(1), slots(2), slots(3));
+        Used pages = withSlots(slots(0), slots(1), slots(2), slots(3));
         say(pages, "probes 0;");
         say(pages, "probes -5;");
         say(pages, "probes 1000;");
@@ -630,7 +630,7 @@ public final class PromiseTest {
     }
 
     private static void passed() {
-        MeshedPages pages = new MeshedPages();
+        Used pages = new Used();
         for (int n : new int[] {0, -1, 61, Integer.MIN_VALUE, Integer.MAX_VALUE}) {
             Due.is("day(" + n + ")", pages.day(n), NONE);
         }
@@ -662,7 +662,7 @@ public final class PromiseTest {
             x = pages.is(1);
             done += one;
         }
-        MeshedPages other = new MeshedPages();
+        Used other = new Used();
         Due.is("all at once", other.day(41), done + 1);
         Due.is("X alike", other.is(1), pages.is(1));
         Due.is("steps, each", other.about(2), 30);
@@ -680,7 +680,7 @@ public final class PromiseTest {
 
     /** Day 0 compacts, day 1 opens the first page. */
     private static int firstOpened() {
-        MeshedPages pages = new MeshedPages();
+        Used pages = new Used();
         for (int i = 0; i < 30 && pages.book(NONE, 0) == 0; i++) {
             pages.day(1);
         }
@@ -689,7 +689,7 @@ public final class PromiseTest {
     }
 
     private static void lastDays() {
-        MeshedPages pages = new MeshedPages();
+        Used pages = new Used();
         say(pages, "day 60;".repeat(24));
         say(pages, "give 5; day 3; compact;");
         for (int i = 0; i < 6; i++) {
@@ -731,7 +731,7 @@ public final class PromiseTest {
         Due.is("a line of the last day", pages.book(pages.book(NONE, 0) - 1, 0), 9999);
     }
 
-    private static int liveBehind(MeshedPages pages, int days) {
+    private static int liveBehind(Used pages, int days) {
         pages.day(days);
         int live = pages.is(3);
         for (int i = 0; i < days; i++) {
@@ -741,7 +741,7 @@ public final class PromiseTest {
     }
 
     private static void played() {
-        MeshedPages pages = new MeshedPages();
+        Used pages = new Used();
         for (int text : FAR) {
             Due.is("played(" + text + ")", pages.played(text), -2);
         }
@@ -777,7 +777,7 @@ public final class PromiseTest {
     }
 
     private static void years() {
-        MeshedPages pages = with(1);
+        Used pages = with(1);
         Due.is("years(-1, 1)", pages.years(-1, 1), NONE);
         Due.is("years(10000, 1)", pages.years(10000, 1), NONE);
         Due.is("years(0, 0)", pages.years(0, 0), NONE);
@@ -799,14 +799,14 @@ public final class PromiseTest {
         }
         Due.is("as so many days", pages.is(1), x);
         // X is 503 + 2 * 2: 507 mod 8 is 3, so that a value is drawn from (507 * 769 + 631) mod 31123.
-        pages = new MeshedPages();
+        pages = new Used();
         Due.is("years(2, 1)", pages.years(2, 1), 1);
         int value = (507 * 769 + 631) % 31123 % 1000;
         Due.holds("the value", pages.holds(value) != NONE);
     }
 
     private static void undone() {
-        MeshedPages pages = new MeshedPages();
+        Used pages = new Used();
         Due.is("undo() of none", pages.undo(), NONE);
         for (int i = 0; i < 35; i++) {
             pages.give(i);
@@ -820,7 +820,7 @@ public final class PromiseTest {
         Due.is("five are left", pages.is(3), 5);
         Due.is("X", pages.is(1), 18153);
         Due.is("the book, too", pages.book(NONE, 0), 1);
-        pages = new MeshedPages();
+        pages = new Used();
         for (int i = 0; i < 12; i++) {
             pages.free(pages.give(1));
         }
@@ -863,7 +863,7 @@ public final class PromiseTest {
     }
 
     private static void asked() {
-        MeshedPages pages = with(18);
+        Used pages = with(18);
         Due.is("at(1)", pages.at(1), 0);
         Due.is("at(22)", pages.at(22), 16);
         Due.is("at(16)", pages.at(16), NONE);
@@ -911,7 +911,7 @@ public final class PromiseTest {
     }
 
     private static void booked() {
-        MeshedPages pages = new MeshedPages();
+        Used pages = new Used();
         Due.is("book(0, 0) of none", pages.book(0, 0), -2);
         for (int i = 0; i < 13; i++) {
             pages.free(pages.give(1));
@@ -953,7 +953,7 @@ public final class PromiseTest {
         Due.is("new again", pages.page(pages.book(last, 2), 0), NONE);
     }
 
-    private static void closeAll(MeshedPages pages) {
+    private static void closeAll(Used pages) {
         for (int address = 0; address < 192; address++) {
             pages.free(address);
         }
@@ -961,7 +961,7 @@ public final class PromiseTest {
     }
 
     private static void foretold() {
-        MeshedPages pages = withSlots(slots(0), slots(1), slots(2), slots(3));
+        Used pages = withSlots(slots(0), slots(1), slots(2), slots(3));
         for (int n : new int[] {0, -1, 61, Integer.MIN_VALUE, Integer.MAX_VALUE}) {
             Due.is("foretold(" + n + ", 0)", pages.foretold(n, 0), NONE);
         }
@@ -985,7 +985,7 @@ public final class PromiseTest {
     }
 
     private static void clashes() {
-        MeshedPages pages = withSlots(slots(0, 1, 2), slots(1, 2, 3), slots(5), slots(6));
+        Used pages = withSlots(slots(0, 1, 2), slots(1, 2, 3), slots(5), slots(6));
         Due.is("clash(0, 1)", pages.clash(0, 1), 6);
         Due.is("clash(0, 2)", pages.clash(0, 2), 0);
         Due.is("clash(0, 0), one frame", pages.clash(0, 0), 7);
@@ -1018,8 +1018,9 @@ public final class PromiseTest {
     }
 
     private static void odds() {
-        MeshedPages pages = new MeshedPages();
+        Used pages = new Used();
         for (int a = 0; a <= 16; a++) {
+            pages = new Used();
             Due.is("odds(" + a + ", 1)", pages.odds(a, 1, false) * 16, (16 - a) * pages.odds(a, 1, true));
             for (int b = 0; b <= 16; b++) {
                 long upper = pages.odds(a, b, false);
@@ -1045,7 +1046,7 @@ public final class PromiseTest {
     }
 
     private static void expected() {
-        MeshedPages pages = new MeshedPages();
+        Used pages = new Used();
         Due.is("without pairs", pages.expected(false), 0);
         Due.is("by 1", pages.expected(true), 1);
         pages = withSlots(slots(0));
@@ -1075,7 +1076,7 @@ public final class PromiseTest {
     }
 
     private static void matched() {
-        MeshedPages pages = new MeshedPages();
+        Used pages = new Used();
         Due.is("most() of none", pages.most(), 0);
         Due.is("mate(0) of none", pages.mate(0), NONE);
         // A path 1 - 0 - 2 - 3 of those that do not clash.
@@ -1116,7 +1117,7 @@ public final class PromiseTest {
     }
 
     private static void fewest() {
-        MeshedPages pages = new MeshedPages();
+        Used pages = new Used();
         Due.is("fewest() of none", pages.fewest(), 0);
         pages = withSlots(slots(0), slots(0), slots(0));
         Due.is("all clash", pages.fewest(), 3);
@@ -1150,7 +1151,7 @@ public final class PromiseTest {
     }
 
     private static void sparse() {
-        MeshedPages pages = new MeshedPages();
+        Used pages = new Used();
         Due.is("sparse() of none", pages.sparse(), 0);
         pages = withSlots(slots(0, 1, 2, 3, 4, 5, 6, 7), slots(0, 1, 2, 3, 4, 5, 6, 7, 8), slots(15), slots(14));
         Due.is("eight or fewer", pages.sparse(), 13);
@@ -1163,7 +1164,7 @@ public final class PromiseTest {
     }
 
     private static void patterns() {
-        MeshedPages pages = withSlots(slots(0, 1, 3, 4, 5, 9, 15), slots(1, 3, 15), slots(0));
+        Used pages = withSlots(slots(0, 1, 3, 4, 5, 9, 15), slots(1, 3, 15), slots(0));
         Due.is("runs(0)", pages.runs(0), 4);
         Due.is("longest(0)", pages.longest(0), 3);
         Due.is("runs(1)", pages.runs(1), 3);
@@ -1201,12 +1202,12 @@ public final class PromiseTest {
         Due.is("same(0, 1)", pages.same(0, 1), 12);
         Due.is("same(1, 1)", pages.same(1, 1), 16);
         Due.is("fullest()", pages.fullest(), 0);
-        Due.is("fullest() of none", new MeshedPages().fullest(), NONE);
+        Due.is("fullest() of none", new Used().fullest(), NONE);
         Due.is("fullest of like ones", withSlots(slots(3), slots(1, 2), slots(4, 5)).fullest(), 1);
     }
 
     private static void values() {
-        MeshedPages pages = with(20);
+        Used pages = with(20);
         Due.is("sum(0)", pages.sum(0), 120);
         Due.is("sum(1)", pages.sum(1), 16 + 17 + 18 + 19);
         Due.is("holds(16)", pages.holds(16), 22);
@@ -1232,11 +1233,11 @@ public final class PromiseTest {
         Due.is("each page its own, meshed", pages.sum(0), first);
         Due.is("each page its own, meshed", pages.sum(1), second);
         Due.is("sound", pages.sound(), true);
-        Due.is("sound at first", new MeshedPages().sound(), true);
+        Due.is("sound at first", new Used().sound(), true);
     }
 
     private static void laws() {
-        MeshedPages pages = withSlots(slots(0, 1), slots(2), slots(3));
+        Used pages = withSlots(slots(0, 1), slots(2), slots(3));
         Due.is("without a text", pages.meshes(0, 1), true);
         say(pages, "meshes one - other;");
         say(pages, "probes 2;");
@@ -1264,7 +1265,7 @@ public final class PromiseTest {
 
     /** Three pages, of two, one and one live slots, the latter two in frame 1, behind three days. */
     private static void sum(String sum, int worth) {
-        MeshedPages pages = withSlots(slots(0, 1), slots(2), slots(3));
+        Used pages = withSlots(slots(0, 1), slots(2), slots(3));
         pages.mesh(1, 2);
         say(pages, "probes if " + sum + " = " + (worth < 0 ? "-" : "") + Math.abs(worth) + " then 5 else 6 end;");
         Due.is("fault of " + sum, pages.fault(0), 0);
@@ -1332,7 +1333,7 @@ public final class PromiseTest {
     }
 
     private static void said() {
-        MeshedPages pages = new MeshedPages();
+        Used pages = new Used();
         say(pages, "meshes one - other;");
         say(pages, "probes 1;");
         say(pages, "meshes other - one;");
@@ -1372,7 +1373,7 @@ public final class PromiseTest {
         Due.is("all else as now: no frames", pages.whose(), 6);
         pages.give(1);
         Due.is("one frame", pages.whose(), 14);
-        Due.is("no texts", new MeshedPages().whose(), 0);
+        Due.is("no texts", new Used().whose(), 0);
         pages.said(NONE, 5, 5);
         pages.said(3, 2, 1);
         Due.is("by the first two and the last", pages.whose(), 11);
@@ -1385,7 +1386,7 @@ public final class PromiseTest {
     }
 
     private static void imaged() {
-        MeshedPages pages = with(3);
+        Used pages = with(3);
         pages.day(5);
         say(pages, "probes 4;");
         pages.by(0);
@@ -1443,7 +1444,7 @@ public final class PromiseTest {
     }
 
     private static void about() {
-        MeshedPages pages = new MeshedPages();
+        Used pages = new Used();
         for (int what : new int[] {-1, -2, 7, Integer.MIN_VALUE, Integer.MAX_VALUE}) {
             Due.is("about(" + what + ")", pages.about(what), -2);
         }
