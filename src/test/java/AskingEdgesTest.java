@@ -257,7 +257,9 @@ public final class AskingEdgesTest {
         for (int lines = 2; lines <= 30; lines += 2) {
             pages.free(pages.give(1));
             Due.is("how many", pages.book(NONE, 0), Math.min(25, lines));
-            Due.is("how many, whatever is asked", pages.book(NONE, 3), Math.min(25, lines));
+            for (int what : new int[] {Integer.MIN_VALUE, -1, 1, 2, 3, 4, Integer.MAX_VALUE}) {
+                Due.is("how many, whatever is asked", pages.book(NONE, what), Math.min(25, lines));
+            }
         }
         pages.undo();
         pages.undo();
@@ -617,6 +619,11 @@ public final class AskingEdgesTest {
         Due.is("apart", pages.fewest(), 2);
         pages.mesh(0, 1);
         Due.is("those of one FRAME stay so", pages.fewest(), 3);
+        pages = Make.withSlots(Make.slots(1, 6), Make.slots(1, 2), Make.slots(3, 5, 6), Make.slots(2, 3, 5), Make.slots(0, 5), Make.slots(0, 4, 6));
+        Due.is("three, though not by the first way", pages.fewest(), 3);
+        pages = Make.withSlots(Make.slots(0, 2, 7), Make.slots(0, 1, 3), Make.slots(0, 4, 5), Make.slots(1, 6, 7), Make.slots(3, 5),
+            Make.slots(2, 3, 7), Make.slots(3, 6));
+        Due.is("four, though not by the first way", pages.fewest(), 4);
     }
 
     private static void would() {

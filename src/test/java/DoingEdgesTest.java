@@ -36,12 +36,14 @@ public final class DoingEdgesTest {
         Due.sentence("14: the first half (cut), one more is in neither", DoingEdgesTest::oddRow);
         Due.sentence("14: below probes, around", DoingEdgesTest::around);
         Due.sentence("14: if neither has been MESHED in this", DoingEdgesTest::onceEach);
+        Due.sentence("14: the right one at j and i, around", DoingEdgesTest::jAndI);
         Due.sentence("14: the left one first", DoingEdgesTest::leftFirst);
         Due.sentence("14: probes as all is ahead", DoingEdgesTest::probesAhead);
         Due.sentence("15: 1 .. 60", DoingEdgesTest::daysPass);
         Due.sentence("15: 0 to 3, 4 to 6, 7", DoingEdgesTest::lots);
         Due.sentence("15: by how many, from the lowest on", DoingEdgesTest::drawnAddress);
         Due.sentence("15: each if it can be", DoingEdgesTest::ifItCanBe);
+        Due.sentence("15: COMPACTED in a DAY", DoingEdgesTest::compactedInADay);
         Due.sentence("15: beyond 9999", DoingEdgesTest::beyondLast);
         Due.sentence("15: a day's lines", DoingEdgesTest::linesOfDays);
         Due.sentence("16: -2 for others", DoingEdgesTest::otherTexts);
@@ -501,6 +503,16 @@ public final class DoingEdgesTest {
         }
         Make.line(pages, Make.lastLine(pages), 0, 2, 0, 1);
         Due.is("no more", pages.move(), NONE);
+        pages = Make.withSlots(Make.slots(0, 1), Make.slots(3, 4), Make.slots(0, 1), Make.slots(3, 4));
+        pages.fence(0, 1);
+        pages.move();
+        pages.move();
+        Due.is("another pair of like SLOTS", pages.fence(2, 3), 2);
+        Due.is("all are yet to be copied", pages.about(6), 2);
+        int value = pages.at(51);
+        Due.is("move()", pages.move(), 1);
+        Due.is("move()", pages.move(), 0);
+        Due.is("its VALUE", pages.at(51), value);
     }
 
     private static void nothingToMove() {
@@ -699,10 +711,44 @@ public final class DoingEdgesTest {
         pages = inRow(Make.slots(0), Make.slots(2), Make.slots(1), Make.slots(2, 3));
         Make.rule(pages, "probes 12;");
         Due.is("right 0 but once", pages.compact(), 1);
+        pages = inRow(Make.slots(0), Make.slots(2), Make.slots(1, 5), Make.slots(2, 3));
+        Make.rule(pages, "probes 12;");
+        Due.is("right 0 but once, which stays", pages.compact(), 1);
+        pages = inRow(Make.slots(0, 5), Make.slots(1, 2), Make.slots(1), Make.slots(2));
+        Make.rule(pages, "probes 12;");
+        Due.is("left 0 but once, which stays", pages.compact(), 1);
+        Due.is("it can be another time", pages.is(2), 3);
         pages = inRow(Make.slots(0), Make.slots(1), Make.slots(2), Make.slots(3));
         Make.rule(pages, "probes 12;");
         Due.is("two pairs", pages.compact(), 2);
         Due.is("FRAMES with PAGES", pages.is(2), 2);
+    }
+
+    private static void jAndI() {
+        for (int half = 1; half <= 4; half++) {
+            for (int left = 0; left < half; left++) {
+                for (int right = 0; right < half; right++) {
+                    onePairOf(half, left, right);
+                }
+            }
+        }
+    }
+
+    /** But one left and one right one do not clash: they are probed when i is so many behind j. */
+    private static void onePairOf(int half, int left, int right) {
+        int due = (right - left + half) % half;
+        for (int probes = due; probes <= due + 1; probes++) {
+            Used pages = Make.with(32 * half);
+            int[] row = drawnRow(2 * half, pages.is(1));
+            int[][] slots = new int[2 * half][];
+            for (int i = 0; i < 2 * half; i++) {
+                slots[row[i]] = i == left ? Make.slots(0) : i == half + right ? Make.slots(1) : Make.slots(0, 1);
+            }
+            Make.freeOthers(pages, slots);
+            Make.rule(pages, "probes " + probes + ";");
+            Due.is("left " + left + " with right " + right + " of " + half + " by " + probes, pages.compact(), probes - due);
+            Due.is("the left one stays", pages.page(row[half + right], 0), row[probes > due ? left : half + right]);
+        }
     }
 
     private static void leftFirst() {
@@ -733,9 +779,15 @@ public final class DoingEdgesTest {
         Used pages = Make.withSlots(Make.slots(0), Make.slots(1), Make.slots(2), Make.slots(3));
         Make.rule(pages, "probes frames-3;");
         Due.is("one probe, though FRAMES grow fewer", pages.compact(), 2);
-        pages = inRow(Make.slots(0), Make.slots(1), Make.slots(2), Make.slots(1, 3));
-        Make.rule(pages, "probes sparse - 2;");
-        Due.is("two probes, though sparse ones grow fewer", pages.compact(), 1);
+        pages = Make.with(96);
+        int[] row = drawnRow(6, pages.is(1));
+        int[][] slots = new int[6][];
+        for (int i = 0; i < 6; i++) {
+            slots[row[i]] = i < 2 ? Make.slots(0) : i == 3 || i == 5 ? Make.slots(1) : Make.slots(0, 1);
+        }
+        Make.freeOthers(pages, slots);
+        Make.rule(pages, "probes sparse - 4;");
+        Due.is("left 0 with right 0, left 1 with right 2 by the second probe, though sparse ones grow fewer", pages.compact(), 2);
         pages = Make.withSlots(Make.slots(0), Make.slots(1), Make.slots(2), Make.slots(3));
         Make.rule(pages, "meshes frames-3;");
         Due.is("but meshes is asked as all is then", pages.compact(), 1);
@@ -823,8 +875,10 @@ public final class DoingEdgesTest {
             seen |= 1 << lot;
             pages = Make.with(192);
             compactingDay(pages, i);
-            lot = pages.is(1) % 8;
+            x = pages.is(1);
+            lot = x % 8;
             Due.is("no room", pages.day(1), lot <= 3 ? 0 : 1);
+            Due.is("what is drawn for it is drawn", pages.is(1), lot == 7 ? Make.nextX(x) : Make.nextX(Make.nextX(x)));
             Due.is("is(3)", pages.is(3), lot <= 3 || lot == 7 ? 192 : 191);
             Due.is("a STEP all the same", pages.undo(), 29);
             Due.is("DAY", pages.is(0), 1);
@@ -842,6 +896,25 @@ public final class DoingEdgesTest {
             }
         }
         Due.is("all lots were seen", seen, 1023);
+    }
+
+    private static void compactedInADay() {
+        for (int seed = 0; seed < 40; seed += 4) {
+            Used pages = Make.withSlots(Make.slots(0), Make.slots(1), Make.slots(2), Make.slots(3), Make.slots(4));
+            int x = Make.nextX(seed * 2 + 503);
+            int[] row = drawnRow(5, x);
+            pages.years(seed, 1);
+            Due.is("two pairs", pages.is(4), 2);
+            for (int j = 0; j < 2; j++) {
+                Due.is("left and right", pages.frame(row[j], 0), 1 << row[j] | 1 << row[2 + j]);
+            }
+            Due.is("one draw and four", pages.is(1), Make.nextX(Make.nextX(Make.nextX(Make.nextX(x)))));
+            Make.line(pages, 5, 0, 2, row[0], row[2]);
+            pages = Make.withSlots(Make.slots(0), Make.slots(1));
+            Make.rule(pages, "meshes 0;");
+            pages.years(seed, 1);
+            Due.is("by the law that rules", pages.is(4), 0);
+        }
     }
 
     private static void beyondLast() {
@@ -1136,6 +1209,18 @@ public final class DoingEdgesTest {
             pages.undo();
         }, DoingEdgesTest::start);
         Same.inAll(pages -> {
+            startWithBook(pages);
+            pages.mesh(2, 3);
+            pages.undo();
+        }, DoingEdgesTest::startWithBook);
+        Same.inAll(pages -> {
+            startWithBook(pages);
+            pages.fence(0, 1);
+            pages.lift();
+            pages.undo();
+            pages.undo();
+        }, DoingEdgesTest::startWithBook);
+        Same.inAll(pages -> {
             fence(pages);
             pages.move();
             pages.undo();
@@ -1163,6 +1248,14 @@ public final class DoingEdgesTest {
         for (int i = 0; i < 5; i++) {
             pages.undo();
         }
+    }
+
+    /** The book is full, so that each line that comes drops one. */
+    private static void startWithBook(Used pages) {
+        for (int i = 0; i < 13; i++) {
+            pages.free(pages.give(1));
+        }
+        start(pages);
     }
 
     private static void fence(Used pages) {

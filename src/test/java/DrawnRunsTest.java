@@ -4,7 +4,7 @@ import java.util.Random;
 public final class DrawnRunsTest {
     private static final int CALLS = 512;
 
-    private final MeshedPages pages = new MeshedPages();
+    private final Used pages = new Used();
     private final Reference reference = new Reference();
     private final Random random;
     private final Texts texts;
@@ -50,10 +50,10 @@ public final class DrawnRunsTest {
     }
 
     private int someAddress() {
-        int bits = pages.is(5);
+        int bits = reference.is(5);
         for (int i = 0; i < 20 && bits != 0; i++) {
             int address = random.nextInt(192);
-            if (pages.at(address) != -1) {
+            if (reference.at(address) != -1) {
                 return address;
             }
         }
@@ -61,7 +61,7 @@ public final class DrawnRunsTest {
     }
 
     private int somePage() {
-        int open = pages.is(5);
+        int open = reference.is(5);
         for (int i = 0; i < 6; i++) {
             int page = random.nextInt(12);
             if ((open >> page & 1) == 1) {
@@ -129,9 +129,9 @@ public final class DrawnRunsTest {
         }
         int stay = 1 + random.nextInt(5);
         for (int page = 0; page < 12; page++) {
-            while (Integer.bitCount(pages.page(page, 1)) > stay + random.nextInt(3) && calls < 300) {
+            while (Integer.bitCount(reference.page(page, 1)) > stay + random.nextInt(3) && calls < 300) {
                 int slot = random.nextInt(16);
-                if (pages.at(page * 16 + slot) != -1) {
+                if (reference.at(page * 16 + slot) != -1) {
                     int address = page * 16 + slot;
                     due("free(" + address + ")", pages.free(address), reference.free(address));
                 }
@@ -162,7 +162,7 @@ public final class DrawnRunsTest {
     private void change(int mode) {
         int a = somePage();
         int b = somePage();
-        for (int i = 0; i < 20 && mode >= 2 && pages.can(a, b) != 0; i++) {
+        for (int i = 0; i < 20 && mode >= 2 && reference.can(a, b) != 0; i++) {
             a = somePage();
             b = somePage();
         }
@@ -285,7 +285,7 @@ public final class DrawnRunsTest {
             case 23: due("same(" + a + ", " + b + ")", pages.same(a, b), reference.same(a, b)); break;
             case 24: due("sum(" + a + ")", pages.sum(a), reference.sum(a)); break;
             case 25:
-                n = random.nextBoolean() ? near(0, 999) : pages.at(someAddress());
+                n = random.nextBoolean() ? near(0, 999) : reference.at(someAddress());
                 due("holds(" + n + ")", pages.holds(n), reference.holds(n));
                 break;
             case 26: due("fullest()", pages.fullest(), reference.fullest()); break;

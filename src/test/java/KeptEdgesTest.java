@@ -51,6 +51,14 @@ public final class KeptEdgesTest {
         Due.is("of eight", pages.said(NONE, 16, 1), 0);
         Due.is("about(3)", pages.about(3), 0);
         Due.is("all, by none", pages.whose(), 3);
+        for (int far : new int[] {Integer.MIN_VALUE, -1, 17, Integer.MAX_VALUE}) {
+            pages.said(1, 1, 1);
+            Due.is("whatever is told beside it", pages.said(NONE, far, 0), 0);
+            Due.is("about(3)", pages.about(3), 0);
+            pages.said(1, 1, 1);
+            Due.is("whatever is told beside it", pages.said(NONE, 0, far), 0);
+            Due.is("about(3)", pages.about(3), 0);
+        }
     }
 
     private static void saidEight() {
@@ -314,6 +322,16 @@ public final class KeptEdgesTest {
             pages.back();
         }, KeptEdgesTest::muchFenced);
         Used pages = new Used();
+        Make.say(pages, "meshes one-2;");
+        Make.say(pages, "meshes 3-one;");
+        pages.said(5, 5, 1);
+        pages.image();
+        pages.said(NONE, 0, 0);
+        pages.said(1, 1, 1);
+        Due.is("whose()", pages.whose(), 2);
+        pages.back();
+        Due.is("whose(), by what was SAID", pages.whose(), 1);
+        pages = new Used();
         Make.say(pages, "probes 1;");
         Make.say(pages, "probes 2;");
         pages.image();

@@ -3,7 +3,6 @@ public final class PromiseTest {
     private static final int NONE = -1;
     /** The first page's vector, by the draws from 503 on. */
     private static final int[] VECTOR = {1, 6, 10, 9, 2, 13, 14, 0, 4, 15, 11, 5, 8, 3, 12, 7};
-    private static final int[] FAR = {Integer.MIN_VALUE, -1000000, 1000000, Integer.MAX_VALUE};
 
     public static void main(String[] args) {
         madeAndFed();
@@ -47,52 +46,6 @@ public final class PromiseTest {
         Due.end();
     }
 
-    private static void feed(Used pages, String text) {
-        pages.end(0);
-        for (int i = 0; i < text.length(); i += 20) {
-            int[] words = new int[5];
-            for (int j = 0; j < 20 && i + j < text.length(); j++) {
-                words[j / 4] |= (text.charAt(i + j) & 255) << 24 - j % 4 * 8;
-            }
-            pages.feed(words[0], words[1], words[2], words[3], words[4]);
-        }
-        Due.is("the tape has " + text, pages.end(text.length()), text.length());
-    }
-
-    private static int say(Used pages, String text) {
-        feed(pages, text);
-        return pages.text();
-    }
-
-    private static Used with(int gives) {
-        Used pages = new Used();
-        for (int i = 0; i < gives; i++) {
-            pages.give(i);
-        }
-        return pages;
-    }
-
-    /** A page for each array, in a frame of its own, of which just these slots are live. */
-    private static Used withSlots(int[]... slots) {
-        Used pages = with(16 * slots.length);
-        for (int page = 0; page < slots.length; page++) {
-            int stay = 0;
-            for (int slot : slots[page]) {
-                stay |= 1 << slot;
-            }
-            for (int slot = 0; slot < 16; slot++) {
-                if ((stay >> slot & 1) == 0) {
-                    pages.free(page * 16 + slot);
-                }
-            }
-        }
-        return pages;
-    }
-
-    private static int[] slots(int... slots) {
-        return slots;
-    }
-
     private static void madeAndFed() {
         Used pages = new Used();
         for (int page = 0; page < 12; page++) {
@@ -113,7 +66,7 @@ public final class PromiseTest {
         }
         Due.is("feed beyond 300", pages.feed(1, 2, 3, 4, 5), NONE);
         Due.is("about(4)", pages.about(4), 300);
-        for (int n : FAR) {
+        for (int n : Make.FAR) {
             Due.is("end(" + n + ")", pages.end(n), NONE);
         }
         Due.is("end(301)", pages.end(301), NONE);
@@ -139,28 +92,28 @@ public final class PromiseTest {
         Due.is("the empty text", pages.text(), 0);
         Due.is("fault(0) of it", pages.fault(0), 0);
         Due.is("fault(1) of it", pages.fault(1), NONE);
-        Due.is("a text with a fault", say(pages, "give 1; give"), NONE);
+        Due.is("a text with a fault", Make.say(pages, "give 1; give"), NONE);
         Due.is("its tape is empty", pages.about(4), 0);
         Due.is("fault(0)", pages.fault(0), 1);
         Due.is("fault(1)", pages.fault(1), 12);
         for (int what : new int[] {-1, 2, Integer.MIN_VALUE, Integer.MAX_VALUE}) {
             Due.is("fault(" + what + ")", pages.fault(what), NONE);
         }
-        Due.is("a text", say(pages, "give 1;"), 1);
-        Due.is("a text", say(pages, "give 2;"), 2);
-        Due.is("a text", say(pages, "\n give\n3 ; \n"), 3);
+        Due.is("a text", Make.say(pages, "give 1;"), 1);
+        Due.is("a text", Make.say(pages, "give 2;"), 2);
+        Due.is("a text", Make.say(pages, "\n give\n3 ; \n"), 3);
         Due.is("about(0)", pages.about(0), 4);
-        feed(pages, "!");
+        Make.feed(pages, "!");
         Due.is("the fifth text", pages.text(), NONE);
         Used other = new Used();
         for (int i = 0; i < 8; i++) {
-            Due.is("a long text with a fault", say(other, "probes 1" + "+1".repeat(145)), NONE);
+            Due.is("a long text with a fault", Make.say(other, "probes 1" + "+1".repeat(145)), NONE);
         }
-        Due.is("it leaves nothing behind", say(other, "probes 1" + "+1-1".repeat(70) + "+6;"), 0);
+        Due.is("it leaves nothing behind", Make.say(other, "probes 1" + "+1-1".repeat(70) + "+6;"), 0);
         other.by(0);
         Due.is("probes()", other.probes(), 7);
-        Due.is("a law of a text with a fault", say(other, "meshes 0; probes 2; give"), NONE);
-        Due.is("is not the next one's", say(other, "give 1;"), 1);
+        Due.is("a law of a text with a fault", Make.say(other, "meshes 0; probes 2; give"), NONE);
+        Due.is("is not the next one's", Make.say(other, "give 1;"), 1);
         other.by(1);
         Due.is("probes()", other.probes(), 3);
         other.give(1);
@@ -172,7 +125,7 @@ public final class PromiseTest {
 
     private static void faulty(String text, int fault, int place) {
         Used pages = new Used();
-        Due.is("text of " + text, say(pages, text), fault == 0 ? 0 : NONE);
+        Due.is("text of " + text, Make.say(pages, text), fault == 0 ? 0 : NONE);
         Due.is("fault of " + text, pages.fault(0), fault);
         Due.is("place of " + text, pages.fault(1), place);
         Due.is("texts behind " + text, pages.about(0), fault == 0 ? 1 : 0);
@@ -295,15 +248,15 @@ public final class PromiseTest {
         Used pages = new Used();
         Due.is("by(0) of none", pages.by(0), false);
         Due.is("by(NONE)", pages.by(NONE), true);
-        say(pages, "probes 7;");
-        say(pages, "probes 9;");
+        Make.say(pages, "probes 7;");
+        Make.say(pages, "probes 9;");
         Due.is("probes() by none", pages.probes(), 3);
         Due.is("by(1)", pages.by(1), true);
         Due.is("probes()", pages.probes(), 9);
         Due.is("about(1)", pages.about(1), 1);
         Due.is("by(2)", pages.by(2), false);
         Due.is("by(-2)", pages.by(-2), false);
-        for (int text : FAR) {
+        for (int text : Make.FAR) {
             Due.is("by(" + text + ")", pages.by(text), false);
         }
         Due.is("probes() as it was", pages.probes(), 9);
@@ -349,9 +302,9 @@ public final class PromiseTest {
     }
 
     private static void freed() {
-        Used pages = with(3);
+        Used pages = Make.with(3);
         Due.is("free(0), not live", pages.free(0), NONE);
-        for (int address : FAR) {
+        for (int address : Make.FAR) {
             Due.is("free(" + address + ")", pages.free(address), NONE);
         }
         Due.is("free(-1)", pages.free(-1), NONE);
@@ -372,7 +325,7 @@ public final class PromiseTest {
     }
 
     private static void written() {
-        Used pages = with(1);
+        Used pages = Make.with(1);
         Due.is("write(1, 999)", pages.write(1, 999), true);
         Due.is("at(1)", pages.at(1), 999);
         Due.is("write(1, 0)", pages.write(1, 0), true);
@@ -383,7 +336,7 @@ public final class PromiseTest {
         Due.is("write(0, 1)", pages.write(0, 1), false);
         Due.is("write(-1, 1)", pages.write(-1, 1), false);
         Due.is("write(192, 1)", pages.write(192, 1), false);
-        for (int far : FAR) {
+        for (int far : Make.FAR) {
             Due.is("write(" + far + ", 1)", pages.write(far, 1), false);
             Due.is("write(1, " + far + ")", pages.write(1, far), false);
         }
@@ -392,14 +345,14 @@ public final class PromiseTest {
     }
 
     private static void meshed() {
-        Used pages = withSlots(slots(0, 1, 2), slots(3, 4), slots(2, 5), slots(6));
+        Used pages = Make.withSlots(Make.slots(0, 1, 2), Make.slots(3, 4), Make.slots(2, 5), Make.slots(6));
         int third = pages.at(19);
         Due.is("clashing", pages.mesh(0, 2), NONE);
         Due.is("itself", pages.mesh(0, 0), NONE);
         Due.is("a new one", pages.mesh(0, 4), NONE);
         Due.is("none", pages.mesh(0, 12), NONE);
         Due.is("none", pages.mesh(-1, 0), NONE);
-        for (int far : FAR) {
+        for (int far : Make.FAR) {
             Due.is("mesh(" + far + ", 0)", pages.mesh(far, 0), NONE);
         }
         int steps = pages.about(2);
@@ -428,14 +381,14 @@ public final class PromiseTest {
     private static final int VALUE_OF_SLOT_0 = 7;
 
     private static void meshedTheOtherWay() {
-        Used pages = withSlots(slots(0), slots(3, 4), slots(5, 6));
+        Used pages = Make.withSlots(Make.slots(0), Make.slots(3, 4), Make.slots(5, 6));
         Due.is("fewer here", pages.mesh(0, 1), 1);
         Due.is("into the second one's", pages.page(0, 0), 1);
         Due.is("its value", pages.at(0), VALUE_OF_SLOT_0);
-        pages = withSlots(slots(0, 1), slots(3, 4), slots(5, 6));
+        pages = Make.withSlots(Make.slots(0, 1), Make.slots(3, 4), Make.slots(5, 6));
         Due.is("as many: the second one goes", pages.mesh(2, 1), 2);
         Due.is("into frame 2", pages.page(1, 0), 2);
-        say(pages, "meshes one - 2 * other;");
+        Make.say(pages, "meshes one - 2 * other;");
         pages.by(0);
         Due.is("one is the first one's frame: 2 - 8", pages.mesh(0, 1), NONE);
         Due.is("4 - 4", pages.mesh(1, 0), NONE);
@@ -445,11 +398,11 @@ public final class PromiseTest {
     }
 
     private static void fenced() {
-        Used pages = withSlots(slots(0, 1, 2), slots(3, 4), slots(6), slots(0), slots(8, 9));
+        Used pages = Make.withSlots(Make.slots(0, 1, 2), Make.slots(3, 4), Make.slots(6), Make.slots(0), Make.slots(8, 9));
         Due.is("clashing", pages.fence(0, 3), NONE);
         Due.is("itself", pages.fence(1, 1), NONE);
         Due.is("a new one", pages.fence(0, 7), NONE);
-        for (int far : FAR) {
+        for (int far : Make.FAR) {
             Due.is("fence(0, " + far + ")", pages.fence(0, far), NONE);
         }
         Due.is("fence(0, 1)", pages.fence(0, 1), 2);
@@ -487,7 +440,7 @@ public final class PromiseTest {
     }
 
     private static void fencedFrameThatEmpties() {
-        Used pages = withSlots(slots(1, 6), slots(10), slots(0));
+        Used pages = Make.withSlots(Make.slots(1, 6), Make.slots(10), Make.slots(0));
         Due.is("fence(0, 1)", pages.fence(0, 1), 1);
         pages.free(1);
         pages.free(6);
@@ -507,7 +460,7 @@ public final class PromiseTest {
         Due.is("move()", pages.move(), 0);
         Due.is("page 1 came", pages.page(1, 0), 0);
         Due.is("with its value", pages.at(26), value);
-        pages = withSlots(slots(1), slots(10));
+        pages = Make.withSlots(Make.slots(1), Make.slots(10));
         pages.fence(0, 1);
         pages.free(1);
         Due.is("move() into the empty one", pages.move(), 0);
@@ -516,7 +469,7 @@ public final class PromiseTest {
     }
 
     private static void moved() {
-        Used pages = withSlots(slots(0, 1, 2, 3), slots(7, 9, 12));
+        Used pages = Make.withSlots(Make.slots(0, 1, 2, 3), Make.slots(7, 9, 12));
         Due.is("move() of none", pages.move(), NONE);
         pages.fence(0, 1);
         Due.is("first", pages.move(), 2);
@@ -543,7 +496,7 @@ public final class PromiseTest {
     }
 
     private static void lifted() {
-        Used pages = withSlots(slots(0, 1, 2, 3), slots(7, 9, 12));
+        Used pages = Make.withSlots(Make.slots(0, 1, 2, 3), Make.slots(7, 9, 12));
         Due.is("lift() of none", pages.lift(), false);
         pages.fence(0, 1);
         pages.move();
@@ -564,7 +517,7 @@ public final class PromiseTest {
         Due.is("compact() of none", pages.compact(), 0);
         Due.is("it is a step", pages.about(2), 1);
         Due.is("without draws", pages.is(1), 503);
-        pages = withSlots(slots(0), slots(1));
+        pages = Make.withSlots(Make.slots(0), Make.slots(1));
         int x = pages.is(1);
         Due.is("would()", pages.would(), 1);
         Due.is("would() changes nothing", pages.is(1), x);
@@ -573,31 +526,31 @@ public final class PromiseTest {
         boolean swapped = x % 2 == 0;
         Due.is("the left one's frame stays", pages.page(0, 0), swapped ? 1 : 0);
         Due.is("both there", pages.page(1, 0), swapped ? 1 : 0);
-        pages = withSlots(slots(0, 1, 2, 3, 4, 5, 6, 7), slots(8));
+        pages = Make.withSlots(Make.slots(0, 1, 2, 3, 4, 5, 6, 7), Make.slots(8));
         Due.is("eight are sparse", pages.compact(), 1);
-        pages = withSlots(slots(0, 1, 2, 3, 4, 5, 6, 7, 8), slots(9));
+        pages = Make.withSlots(Make.slots(0, 1, 2, 3, 4, 5, 6, 7, 8), Make.slots(9));
         Due.is("nine are not", pages.compact(), 0);
-        pages = withSlots(slots(0), slots(1), slots(2));
+        pages = Make.withSlots(Make.slots(0), Make.slots(1), Make.slots(2));
         Due.is("of three one is in neither", pages.compact(), 1);
         Due.is("frames", pages.is(2), 2);
-        pages = withSlots(slots(0), slots(1), slots(2), slots(3), slots(4), slots(5));
+        pages = Make.withSlots(Make.slots(0), Make.slots(1), Make.slots(2), Make.slots(3), Make.slots(4), Make.slots(5));
         Due.is("three pairs", pages.compact(), 3);
         Due.is("frames", pages.is(2), 3);
         Due.is("meshed", pages.is(4), 3);
-        pages = withSlots(slots(0), slots(0), slots(0), slots(0));
+        pages = Make.withSlots(Make.slots(0), Make.slots(0), Make.slots(0), Make.slots(0));
         Due.is("all clash", pages.compact(), 0);
-        pages = withSlots(slots(0, 1), slots(2), slots(3), slots(4));
+        pages = Make.withSlots(Make.slots(0, 1), Make.slots(2), Make.slots(3), Make.slots(4));
         pages.fence(0, 1);
         Due.is("those of the fence are not sparse", pages.sparse(), 12);
         Due.is("the two others", pages.compact(), 1);
     }
 
     private static void probed() {
-        Used pages = withSlots(slots(0), slots(1), slots(2), slots(3));
-        say(pages, "probes 0;");
-        say(pages, "probes -5;");
-        say(pages, "probes 1000;");
-        say(pages, "probes sparse / 4; meshes frames - 3;");
+        Used pages = Make.withSlots(Make.slots(0), Make.slots(1), Make.slots(2), Make.slots(3));
+        Make.say(pages, "probes 0;");
+        Make.say(pages, "probes -5;");
+        Make.say(pages, "probes 1000;");
+        Make.say(pages, "probes sparse / 4; meshes frames - 3;");
         pages.by(0);
         Due.is("no probes", pages.would(), 0);
         pages.by(1);
@@ -611,7 +564,7 @@ public final class PromiseTest {
         Due.is("then the law, which is asked each time, forbids", pages.would(), 1);
         Due.is("compact()", pages.compact(), 1);
         Due.is("frames", pages.is(2), 3);
-        pages = withSlots(slots(0), slots(1), slots(0), slots(1));
+        pages = Make.withSlots(Make.slots(0), Make.slots(1), Make.slots(0), Make.slots(1));
         int most = 0;
         for (int i = 0; i < 12; i++) {
             int would = pages.would();
@@ -668,7 +621,7 @@ public final class PromiseTest {
         Due.is("steps, each", other.about(2), 30);
         other.undo();
         Due.is("the latest day is taken back", other.is(0), 40);
-        pages = withSlots(slots(0), slots(1, 2));
+        pages = Make.withSlots(Make.slots(0), Make.slots(1, 2));
         pages.fence(1, 0);
         for (int i = 0; i < 20; i++) {
             pages.day(10);
@@ -690,8 +643,8 @@ public final class PromiseTest {
 
     private static void lastDays() {
         Used pages = new Used();
-        say(pages, "day 60;".repeat(24));
-        say(pages, "give 5; day 3; compact;");
+        Make.say(pages, "day 60;".repeat(24));
+        Make.say(pages, "give 5; day 3; compact;");
         for (int i = 0; i < 6; i++) {
             Due.is("1440 days", pages.played(0), NONE);
         }
@@ -742,47 +695,47 @@ public final class PromiseTest {
 
     private static void played() {
         Used pages = new Used();
-        for (int text : FAR) {
+        for (int text : Make.FAR) {
             Due.is("played(" + text + ")", pages.played(text), -2);
         }
         Due.is("played(0) of none", pages.played(0), -2);
         Due.is("played(NONE)", pages.played(NONE), -2);
-        say(pages, "probes 0; give 5; write 6 at 1; meshes 0; give 8; free 6; compact; day 2;");
+        Make.say(pages, "probes 0; give 5; write 6 at 1; meshes 0; give 8; free 6; compact; day 2;");
         Due.is("played(0)", pages.played(0), NONE);
         Due.is("steps", pages.about(2), 7);
         Due.is("at(1)", pages.at(1), 6);
         Due.is("its laws do not rule", pages.probes(), 3);
         Due.is("DAY", pages.is(0), 2);
-        say(pages, "give 1; free 191; give 2;");
+        Make.say(pages, "give 1; free 191; give 2;");
         int live = pages.is(3);
         Due.is("one that can't be", pages.played(1), 1);
         Due.is("what was done stays", pages.is(3), live + 1);
-        say(pages, "meshes 1; write 5 at 190;");
+        Make.say(pages, "meshes 1; write 5 at 190;");
         Due.is("numbered among all clauses", pages.played(2), 1);
-        say(pages, "give 1; mesh 0 with 11;");
+        Make.say(pages, "give 1; mesh 0 with 11;");
         Due.is("mesh that can't be", pages.played(3), 1);
         Due.is("played(4)", pages.played(4), -2);
-        pages = withSlots(slots(0, 1), slots(2), slots(3, 4));
-        say(pages, "mesh 0 with 1;mesh 0 with 1;");
-        say(pages, "mesh 2 with 0;");
+        pages = Make.withSlots(Make.slots(0, 1), Make.slots(2), Make.slots(3, 4));
+        Make.say(pages, "mesh 0 with 1;mesh 0 with 1;");
+        Make.say(pages, "mesh 2 with 0;");
         Due.is("the second time it can't be", pages.played(0), 1);
         Due.is("meshed", pages.page(1, 0), 0);
         Due.is("mesh 2 with 0", pages.played(1), NONE);
         Due.is("the first was 2", pages.page(2, 0), 0);
-        pages = with(192);
-        say(pages, "give 1;");
+        pages = Make.with(192);
+        Make.say(pages, "give 1;");
         Due.is("no room", pages.played(0), 0);
-        say(pages, "");
+        Make.say(pages, "");
         Due.is("without clauses", pages.played(1), NONE);
     }
 
     private static void years() {
-        Used pages = with(1);
+        Used pages = Make.with(1);
         Due.is("years(-1, 1)", pages.years(-1, 1), NONE);
         Due.is("years(10000, 1)", pages.years(10000, 1), NONE);
         Due.is("years(0, 0)", pages.years(0, 0), NONE);
         Due.is("years(0, 41)", pages.years(0, 41), NONE);
-        for (int far : FAR) {
+        for (int far : Make.FAR) {
             Due.is("years(" + far + ", 1)", pages.years(far, 1), NONE);
             Due.is("years(1, " + far + ")", pages.years(1, far), NONE);
         }
@@ -837,7 +790,7 @@ public final class PromiseTest {
         Due.is("the eldest is there again", pages.book(0, 1), 0);
         Due.is("the latest, too", pages.book(24, 1), 0);
         Due.is("with its day", pages.book(24, 0), 1);
-        pages = withSlots(slots(0, 1), slots(2, 3));
+        pages = Make.withSlots(Make.slots(0, 1), Make.slots(2, 3));
         int value = pages.at(18);
         pages.mesh(0, 1);
         pages.write(18, 5);
@@ -853,7 +806,7 @@ public final class PromiseTest {
         Due.is("fenced again", pages.about(5), 1);
         pages.undo();
         Due.is("not fenced", pages.about(5), NONE);
-        say(pages, "probes 5;");
+        Make.say(pages, "probes 5;");
         pages.by(0);
         pages.said(1, 1, 1);
         pages.undo();
@@ -863,7 +816,7 @@ public final class PromiseTest {
     }
 
     private static void asked() {
-        Used pages = with(18);
+        Used pages = Make.with(18);
         Due.is("at(1)", pages.at(1), 0);
         Due.is("at(22)", pages.at(22), 16);
         Due.is("at(16)", pages.at(16), NONE);
@@ -927,14 +880,14 @@ public final class PromiseTest {
         Due.is("book(0, 4)", pages.book(0, 4), -2);
         Due.is("book(0, -1)", pages.book(0, -1), -2);
         Due.is("book(-2, 0)", pages.book(-2, 0), -2);
-        for (int far : FAR) {
+        for (int far : Make.FAR) {
             Due.is("book(" + far + ", 0)", pages.book(far, 0), -2);
             Due.is("book(0, " + far + ")", pages.book(0, far), -2);
             Due.is("ledger(" + far + ")", pages.ledger(far), -2);
         }
         Due.is("ledger(-1)", pages.ledger(-1), -2);
         Due.is("ledger(5)", pages.ledger(5), -2);
-        pages = withSlots(slots(0), slots(1), slots(2, 3));
+        pages = Make.withSlots(Make.slots(0), Make.slots(1), Make.slots(2, 3));
         pages.fence(0, 1);
         pages.lift();
         pages.fence(2, 1);
@@ -961,7 +914,7 @@ public final class PromiseTest {
     }
 
     private static void foretold() {
-        Used pages = withSlots(slots(0), slots(1), slots(2), slots(3));
+        Used pages = Make.withSlots(Make.slots(0), Make.slots(1), Make.slots(2), Make.slots(3));
         for (int n : new int[] {0, -1, 61, Integer.MIN_VALUE, Integer.MAX_VALUE}) {
             Due.is("foretold(" + n + ", 0)", pages.foretold(n, 0), NONE);
         }
@@ -985,7 +938,7 @@ public final class PromiseTest {
     }
 
     private static void clashes() {
-        Used pages = withSlots(slots(0, 1, 2), slots(1, 2, 3), slots(5), slots(6));
+        Used pages = Make.withSlots(Make.slots(0, 1, 2), Make.slots(1, 2, 3), Make.slots(5), Make.slots(6));
         Due.is("clash(0, 1)", pages.clash(0, 1), 6);
         Due.is("clash(0, 2)", pages.clash(0, 2), 0);
         Due.is("clash(0, 0), one frame", pages.clash(0, 0), 7);
@@ -1006,7 +959,7 @@ public final class PromiseTest {
         Due.is("frames clash", pages.clash(0, 2), 6);
         Due.is("can by frames", pages.can(0, 2), 4);
         Due.is("one frame", pages.can(1, 2), 2);
-        say(pages, "meshes 0;");
+        Make.say(pages, "meshes 0;");
         pages.by(0);
         Due.is("the law", pages.can(0, 3), 5);
         Due.is("ahead of the law: the clash", pages.can(0, 1), 4);
@@ -1049,13 +1002,13 @@ public final class PromiseTest {
         Used pages = new Used();
         Due.is("without pairs", pages.expected(false), 0);
         Due.is("by 1", pages.expected(true), 1);
-        pages = withSlots(slots(0));
+        pages = Make.withSlots(Make.slots(0));
         Due.is("one frame", pages.expected(false), 0);
         Due.is("by 1", pages.expected(true), 1);
-        pages = withSlots(slots(0), slots(0));
+        pages = Make.withSlots(Make.slots(0), Make.slots(0));
         Due.is("15 by 16", pages.expected(false), 15);
         Due.is("15 by 16", pages.expected(true), 16);
-        pages = withSlots(slots(0), slots(1), slots(0, 1));
+        pages = Make.withSlots(Make.slots(0), Make.slots(1), Make.slots(0, 1));
         // 15/16 + 14/16 + 14/16
         Due.is("43 by 16", pages.expected(false), 43);
         Due.is("43 by 16", pages.expected(true), 16);
@@ -1065,11 +1018,11 @@ public final class PromiseTest {
         // 91/120
         Due.is("meshed: 91 by 120", pages.expected(false), 91);
         Due.is("meshed: 91 by 120", pages.expected(true), 120);
-        pages = with(17);
+        pages = Make.with(17);
         Due.is("a full one", pages.expected(false), 0);
         Due.is("by 1", pages.expected(true), 1);
-        pages = withSlots(slots(0), slots(0), slots(0), slots(0), slots(0), slots(0), slots(0), slots(0), slots(0),
-            slots(0), slots(0), slots(0));
+        pages = Make.withSlots(Make.slots(0), Make.slots(0), Make.slots(0), Make.slots(0), Make.slots(0), Make.slots(0), Make.slots(0), Make.slots(0), Make.slots(0),
+            Make.slots(0), Make.slots(0), Make.slots(0));
         // 66 pairs of 15/16
         Due.is("495 by 8", pages.expected(false), 495);
         Due.is("495 by 8", pages.expected(true), 8);
@@ -1080,26 +1033,26 @@ public final class PromiseTest {
         Due.is("most() of none", pages.most(), 0);
         Due.is("mate(0) of none", pages.mate(0), NONE);
         // A path 1 - 0 - 2 - 3 of those that do not clash.
-        pages = withSlots(slots(0), slots(1, 2, 3), slots(1, 4), slots(0, 2));
+        pages = Make.withSlots(Make.slots(0), Make.slots(1, 2, 3), Make.slots(1, 4), Make.slots(0, 2));
         Due.is("a path: two pairs", pages.most(), 2);
         Due.is("mate(0)", pages.mate(0), 1);
         Due.is("mate(1)", pages.mate(1), 0);
         Due.is("mate(2)", pages.mate(2), 3);
         Due.is("mate(3)", pages.mate(3), 2);
         // 0 goes with 1 and 2, 1 with 0 alone, 2 with 0 alone, so one has none: the lowest row gives 0 the mate 1.
-        pages = withSlots(slots(0), slots(1, 2), slots(1, 3));
+        pages = Make.withSlots(Make.slots(0), Make.slots(1, 2), Make.slots(1, 3));
         Due.is("a star: one pair", pages.most(), 1);
         Due.is("mate(0)", pages.mate(0), 1);
         Due.is("mate(2)", pages.mate(2), NONE);
         // 0 with 1 would leave 2 and 3, which clash: 0 must go with 2, 1 with 3, if 2 goes with 0 alone.
-        pages = withSlots(slots(0), slots(1, 5), slots(1, 2, 5), slots(0, 2));
+        pages = Make.withSlots(Make.slots(0), Make.slots(1, 5), Make.slots(1, 2, 5), Make.slots(0, 2));
         Due.is("two pairs", pages.most(), 2);
         Due.is("mate(0) is not the lowest", pages.mate(0), 2);
         Due.is("mate(1)", pages.mate(1), 3);
         for (int frame : new int[] {-1, 4, 12, Integer.MIN_VALUE, Integer.MAX_VALUE}) {
             Due.is("mate(" + frame + ")", pages.mate(frame), NONE);
         }
-        say(pages, "meshes 0;");
+        Make.say(pages, "meshes 0;");
         pages.by(0);
         Due.is("meshes aside", pages.most(), 2);
         pages.by(NONE);
@@ -1108,8 +1061,8 @@ public final class PromiseTest {
         pages.lift();
         pages.mesh(0, 2);
         Due.is("by frames: 0 is free now", pages.mate(0), NONE);
-        pages = withSlots(slots(0), slots(1), slots(2), slots(3), slots(4), slots(5), slots(6), slots(7), slots(8),
-            slots(9), slots(10), slots(11));
+        pages = Make.withSlots(Make.slots(0), Make.slots(1), Make.slots(2), Make.slots(3), Make.slots(4), Make.slots(5), Make.slots(6), Make.slots(7), Make.slots(8),
+            Make.slots(9), Make.slots(10), Make.slots(11));
         Due.is("six pairs", pages.most(), 6);
         for (int frame = 0; frame < 12; frame++) {
             Due.is("mate(" + frame + ")", pages.mate(frame), frame ^ 1);
@@ -1119,41 +1072,41 @@ public final class PromiseTest {
     private static void fewest() {
         Used pages = new Used();
         Due.is("fewest() of none", pages.fewest(), 0);
-        pages = withSlots(slots(0), slots(0), slots(0));
+        pages = Make.withSlots(Make.slots(0), Make.slots(0), Make.slots(0));
         Due.is("all clash", pages.fewest(), 3);
-        pages = withSlots(slots(0), slots(1), slots(2));
+        pages = Make.withSlots(Make.slots(0), Make.slots(1), Make.slots(2));
         Due.is("all together", pages.fewest(), 1);
         // Five that clash in a ring: no two frames can do, though no slot is in three.
-        pages = withSlots(slots(0, 1), slots(1, 2), slots(2, 3), slots(3, 4), slots(4, 0));
+        pages = Make.withSlots(Make.slots(0, 1), Make.slots(1, 2), Make.slots(2, 3), Make.slots(3, 4), Make.slots(4, 0));
         Due.is("a ring of five", pages.fewest(), 3);
-        pages = withSlots(slots(0, 1), slots(1, 2), slots(2, 3), slots(3, 0));
+        pages = Make.withSlots(Make.slots(0, 1), Make.slots(1, 2), Make.slots(2, 3), Make.slots(3, 0));
         Due.is("a ring of four", pages.fewest(), 2);
-        say(pages, "meshes 0;");
+        Make.say(pages, "meshes 0;");
         pages.by(0);
         Due.is("laws aside", pages.fewest(), 2);
-        pages = withSlots(slots(0), slots(1), slots(1), slots(0));
+        pages = Make.withSlots(Make.slots(0), Make.slots(1), Make.slots(1), Make.slots(0));
         Due.is("two", pages.fewest(), 2);
         pages.mesh(0, 1);
         Due.is("those of one frame stay so", pages.fewest(), 2);
-        pages = withSlots(slots(0), slots(1), slots(0, 2), slots(1, 3));
+        pages = Make.withSlots(Make.slots(0), Make.slots(1), Make.slots(0, 2), Make.slots(1, 3));
         Due.is("two", pages.fewest(), 2);
         pages.mesh(0, 1);
         Due.is("0 and 1 clash with both", pages.fewest(), 2);
-        pages = withSlots(slots(0), slots(1), slots(0, 1));
+        pages = Make.withSlots(Make.slots(0), Make.slots(1), Make.slots(0, 1));
         pages.mesh(0, 1);
         Due.is("two", pages.fewest(), 2);
-        Due.is("all full", with(192).fewest(), 12);
+        Due.is("all full", Make.with(192).fewest(), 12);
         // The third clashes with none of the second, the fourth of the sixth, the fifth of the first.
-        pages = withSlots(slots(1, 6), slots(1, 2), slots(3, 5, 6), slots(2, 3, 5), slots(0, 5), slots(0, 4, 6));
+        pages = Make.withSlots(Make.slots(1, 6), Make.slots(1, 2), Make.slots(3, 5, 6), Make.slots(2, 3, 5), Make.slots(0, 5), Make.slots(0, 4, 6));
         Due.is("three, though not by the first way", pages.fewest(), 3);
-        pages = withSlots(slots(0, 2, 7), slots(0, 1, 3), slots(0, 4, 5), slots(1, 6, 7), slots(3, 5), slots(2, 3, 7), slots(3, 6));
+        pages = Make.withSlots(Make.slots(0, 2, 7), Make.slots(0, 1, 3), Make.slots(0, 4, 5), Make.slots(1, 6, 7), Make.slots(3, 5), Make.slots(2, 3, 7), Make.slots(3, 6));
         Due.is("four, though not by the first way", pages.fewest(), 4);
     }
 
     private static void sparse() {
         Used pages = new Used();
         Due.is("sparse() of none", pages.sparse(), 0);
-        pages = withSlots(slots(0, 1, 2, 3, 4, 5, 6, 7), slots(0, 1, 2, 3, 4, 5, 6, 7, 8), slots(15), slots(14));
+        pages = Make.withSlots(Make.slots(0, 1, 2, 3, 4, 5, 6, 7), Make.slots(0, 1, 2, 3, 4, 5, 6, 7, 8), Make.slots(15), Make.slots(14));
         Due.is("eight or fewer", pages.sparse(), 13);
         pages.fence(2, 3);
         Due.is("neither that goes nor that stays", pages.sparse(), 1);
@@ -1164,13 +1117,13 @@ public final class PromiseTest {
     }
 
     private static void patterns() {
-        Used pages = withSlots(slots(0, 1, 3, 4, 5, 9, 15), slots(1, 3, 15), slots(0));
+        Used pages = Make.withSlots(Make.slots(0, 1, 3, 4, 5, 9, 15), Make.slots(1, 3, 15), Make.slots(0));
         Due.is("runs(0)", pages.runs(0), 4);
         Due.is("longest(0)", pages.longest(0), 3);
         Due.is("runs(1)", pages.runs(1), 3);
         Due.is("longest(1)", pages.longest(1), 1);
-        Due.is("runs of a full one", with(16).runs(0), 1);
-        Due.is("longest of a full one", with(16).longest(0), 16);
+        Due.is("runs of a full one", Make.with(16).runs(0), 1);
+        Due.is("longest of a full one", Make.with(16).longest(0), 16);
         Due.is("find live", pages.find(0, 1, 1), 0);
         Due.is("find one that is not", pages.find(0, 0, 1), 2);
         Due.is("find from the lowest bit on", pages.find(0, 5, 3), 1);
@@ -1194,7 +1147,7 @@ public final class PromiseTest {
             Due.is("same(" + far + ", 0)", pages.same(far, 0), NONE);
             Due.is("sum(" + far + ")", pages.sum(far), NONE);
         }
-        for (int far : FAR) {
+        for (int far : Make.FAR) {
             Due.is("find(0, 0, " + far + ")", pages.find(0, 0, far), NONE);
             Due.is("find(0, " + far + ", 16)", pages.find(0, far, 16), NONE);
         }
@@ -1203,11 +1156,11 @@ public final class PromiseTest {
         Due.is("same(1, 1)", pages.same(1, 1), 16);
         Due.is("fullest()", pages.fullest(), 0);
         Due.is("fullest() of none", new Used().fullest(), NONE);
-        Due.is("fullest of like ones", withSlots(slots(3), slots(1, 2), slots(4, 5)).fullest(), 1);
+        Due.is("fullest of like ones", Make.withSlots(Make.slots(3), Make.slots(1, 2), Make.slots(4, 5)).fullest(), 1);
     }
 
     private static void values() {
-        Used pages = with(20);
+        Used pages = Make.with(20);
         Due.is("sum(0)", pages.sum(0), 120);
         Due.is("sum(1)", pages.sum(1), 16 + 17 + 18 + 19);
         Due.is("holds(16)", pages.holds(16), 22);
@@ -1220,13 +1173,13 @@ public final class PromiseTest {
         Due.is("those live", pages.holds(3), VECTOR[3]);
         Due.is("holds(-1)", pages.holds(-1), NONE);
         Due.is("holds(1000)", pages.holds(1000), NONE);
-        for (int far : FAR) {
+        for (int far : Make.FAR) {
             Due.is("holds(" + far + ")", pages.holds(far), NONE);
         }
         pages.write(22, 999);
         Due.is("holds(999)", pages.holds(999), 22);
         Due.is("sum(1)", pages.sum(1), 999 + 17 + 18 + 19);
-        pages = withSlots(slots(0, 3), slots(1, 2));
+        pages = Make.withSlots(Make.slots(0, 3), Make.slots(1, 2));
         int first = pages.sum(0);
         int second = pages.sum(1);
         pages.mesh(0, 1);
@@ -1237,11 +1190,11 @@ public final class PromiseTest {
     }
 
     private static void laws() {
-        Used pages = withSlots(slots(0, 1), slots(2), slots(3));
+        Used pages = Make.withSlots(Make.slots(0, 1), Make.slots(2), Make.slots(3));
         Due.is("without a text", pages.meshes(0, 1), true);
-        say(pages, "meshes one - other;");
-        say(pages, "probes 2;");
-        say(pages, "meshes -1;");
+        Make.say(pages, "meshes one - other;");
+        Make.say(pages, "probes 2;");
+        Make.say(pages, "meshes -1;");
         pages.by(0);
         Due.is("2 - 1", pages.meshes(0, 1), true);
         Due.is("1 - 2", pages.meshes(1, 0), false);
@@ -1265,9 +1218,9 @@ public final class PromiseTest {
 
     /** Three pages, of two, one and one live slots, the latter two in frame 1, behind three days. */
     private static void sum(String sum, int worth) {
-        Used pages = withSlots(slots(0, 1), slots(2), slots(3));
+        Used pages = Make.withSlots(Make.slots(0, 1), Make.slots(2), Make.slots(3));
         pages.mesh(1, 2);
-        say(pages, "probes if " + sum + " = " + (worth < 0 ? "-" : "") + Math.abs(worth) + " then 5 else 6 end;");
+        Make.say(pages, "probes if " + sum + " = " + (worth < 0 ? "-" : "") + Math.abs(worth) + " then 5 else 6 end;");
         Due.is("fault of " + sum, pages.fault(0), 0);
         pages.by(0);
         Due.is("probes of " + sum + " is " + worth, pages.probes(), 5);
@@ -1334,9 +1287,9 @@ public final class PromiseTest {
 
     private static void said() {
         Used pages = new Used();
-        say(pages, "meshes one - other;");
-        say(pages, "probes 1;");
-        say(pages, "meshes other - one;");
+        Make.say(pages, "meshes one - other;");
+        Make.say(pages, "probes 1;");
+        Make.say(pages, "meshes other - one;");
         Due.is("nothing said: all", pages.whose(), 7);
         Due.is("said(3, 2, 1)", pages.said(3, 2, 1), 1);
         Due.is("whose()", pages.whose(), 3);
@@ -1353,7 +1306,7 @@ public final class PromiseTest {
         Due.is("said(0, -1, 0)", pages.said(0, -1, 0), -2);
         Due.is("said(0, 0, 2)", pages.said(0, 0, 2), -2);
         Due.is("said(0, 0, -1)", pages.said(0, 0, -1), -2);
-        for (int far : FAR) {
+        for (int far : Make.FAR) {
             Due.is("said(" + far + ", 0, 0)", pages.said(far, 0, 0), -2);
             Due.is("said(0, " + far + ", 0)", pages.said(0, far, 0), -2);
             Due.is("said(0, 0, " + far + ")", pages.said(0, 0, far), -2);
@@ -1369,7 +1322,7 @@ public final class PromiseTest {
         Due.is("whose()", pages.whose(), 6);
         Due.is("what rules is another thing", pages.by(0), true);
         Due.is("whose()", pages.whose(), 6);
-        say(pages, "meshes frames;");
+        Make.say(pages, "meshes frames;");
         Due.is("all else as now: no frames", pages.whose(), 6);
         pages.give(1);
         Due.is("one frame", pages.whose(), 14);
@@ -1386,21 +1339,21 @@ public final class PromiseTest {
     }
 
     private static void imaged() {
-        Used pages = with(3);
+        Used pages = Make.with(3);
         pages.day(5);
-        say(pages, "probes 4;");
+        Make.say(pages, "probes 4;");
         pages.by(0);
         pages.said(1, 2, 1);
         int x = pages.is(1);
         int live = pages.is(3);
         Due.is("image()", pages.image(), 5);
-        feed(pages, "give x;");
+        Make.feed(pages, "give x;");
         pages.day(10);
         pages.text();
-        say(pages, "probes 5;");
+        Make.say(pages, "probes 5;");
         pages.by(1);
         pages.said(NONE, 0, 0);
-        feed(pages, "give 1;");
+        Make.feed(pages, "give 1;");
         Due.is("back()", pages.back(), 5);
         Due.is("X", pages.is(1), x);
         Due.is("live", pages.is(3), live);
@@ -1410,7 +1363,7 @@ public final class PromiseTest {
         Due.is("steps", pages.about(2), 8);
         Due.is("but the tape", pages.about(4), 7);
         Due.is("text() of it", pages.text(), 1);
-        say(pages, "give;");
+        Make.say(pages, "give;");
         pages.back();
         Due.is("and the latest fault", pages.fault(0), 1);
         Due.is("its place", pages.fault(1), 4);
@@ -1430,7 +1383,7 @@ public final class PromiseTest {
         Due.is("another image", pages.image(), 4);
         pages.day(1);
         Due.is("back() to it", pages.back(), 4);
-        pages = withSlots(slots(0, 1), slots(2, 3));
+        pages = Make.withSlots(Make.slots(0, 1), Make.slots(2, 3));
         pages.fence(0, 1);
         pages.move();
         pages.image();

@@ -101,9 +101,7 @@ final class Same {
 
     /** Alike in all, but the tape and the latest fault. */
     static void butTheTape(Consumer<Used> got, Consumer<Used> want) {
-        for (int from = 0; from < ASKS.size(); from += CHUNK) {
-            asked(ASKS, from, Math.min(ASKS.size(), from + CHUNK), got, want);
-        }
+        askedBehind(pages -> { }, got, want);
         List<Ask> doing = new ArrayList<>();
         for (int i = 0; i < 31; i++) {
             doing.add(new Ask("undo()", pages -> pages.undo()));
@@ -119,9 +117,17 @@ final class Same {
         doing.add(new Ask("give(1)", pages -> pages.give(1)));
         doing.add(new Ask("back()", pages -> pages.back()));
         asked(doing, 0, doing.size(), got, want);
-        Consumer<Used> back = pages -> pages.back();
+        askedBehind(pages -> pages.back(), got, want);
+        askedBehind(pages -> {
+            for (int i = 0; i < 8; i++) {
+                pages.move();
+            }
+        }, got, want);
+    }
+
+    private static void askedBehind(Consumer<Used> then, Consumer<Used> got, Consumer<Used> want) {
         for (int from = 0; from < ASKS.size(); from += CHUNK) {
-            asked(ASKS, from, Math.min(ASKS.size(), from + CHUNK), got.andThen(back), want.andThen(back));
+            asked(ASKS, from, Math.min(ASKS.size(), from + CHUNK), got.andThen(then), want.andThen(then));
         }
     }
 

@@ -14,6 +14,7 @@ public final class TextEdgesTest {
         Due.sentence("4: the tape, empty then", TextEdgesTest::emptyThen);
         Due.sentence("4: a text of 300 bytes", TextEdgesTest::longestText);
         Due.sentence("4: the tape stays, there are 4", TextEdgesTest::fourTexts);
+        Due.sentence("4: what has a FAULT leaves nothing behind", TextEdgesTest::faultyLeaveNothing);
         Due.sentence("5: ahead of any", TextEdgesTest::aheadOfAny);
         Due.sentence("5: 0 without, its place NONE without", TextEdgesTest::withoutFault);
         Due.sentence("5: of the latest text that was read", TextEdgesTest::latestRead);
@@ -45,6 +46,7 @@ public final class TextEdgesTest {
         Due.sentence("II: place: 1 and the FRAME; 0: NEW, and for others", TextEdgesTest::places);
         Due.sentence("II: < <= > >= = #", TextEdgesTest::askings);
         Due.sentence("II: or, and, not", TextEdgesTest::joinedAskings);
+        Due.sentence("II: of if just the SUM that is chosen", TextEdgesTest::chosen);
         Due.sentence("II: NAMES", TextEdgesTest::names);
         Due.sentence("II: meshes: above 0 it lets; without: it does", TextEdgesTest::aboveNothing);
         Due.sentence("II: probes: 0 at least, 12 at most; without: 3", TextEdgesTest::probesAtMost);
@@ -256,6 +258,28 @@ public final class TextEdgesTest {
         Due.is("probes()", pages.probes(), 3);
         Make.rule(pages, "give 1;day 1;" + " ".repeat(275) + "probes 4;   ");
         Due.is("to its end", pages.probes(), 4);
+    }
+
+    private static void faultyLeaveNothing() {
+        Used pages = new Used();
+        for (int i = 0; i < 10; i++) {
+            Due.is("a long one with a FAULT", Make.say(pages, "probes 1" + "+1".repeat(146)), NONE);
+        }
+        Due.is("a long one", Make.say(pages, "probes 1" + "-1+1".repeat(72) + "+5; "), 0);
+        pages.by(0);
+        Due.is("probes()", pages.probes(), 6);
+        Due.is("laws and clauses with a FAULT", Make.say(pages, "meshes 0;probes 2;give 1;give 2;give"), NONE);
+        Due.is("one without", Make.say(pages, "give 5;"), 1);
+        pages.by(1);
+        Due.is("probes()", pages.probes(), 3);
+        Due.is("played(1)", pages.played(1), NONE);
+        Due.is("is(3)", pages.is(3), 1);
+        Due.is("meshes(0, 0)", pages.meshes(0, 0), true);
+        for (int i = 0; i < 3; i++) {
+            Make.say(pages, "compact;".repeat(25));
+        }
+        Due.is("24 clauses", Make.say(pages, "compact;".repeat(24)), 2);
+        Due.is("played(2)", pages.played(2), NONE);
     }
 
     private static void fourTexts() {
@@ -726,6 +750,12 @@ public final class TextEdgesTest {
             asked("4" + signs[i] + "3", more[i]);
             asked("-4" + signs[i] + "3", less[i]);
             asked("2*3" + signs[i] + "5+1", like[i]);
+            for (int j = 0; j < signs.length; j++) {
+                asked("2" + signs[i] + "3 and 4" + signs[j] + "3", less[i] && more[j]);
+                asked("4" + signs[i] + "3 and 3" + signs[j] + "3", more[i] && like[j]);
+                asked("3" + signs[i] + "3 or 2" + signs[j] + "3", like[i] || less[j]);
+                asked("not 2" + signs[i] + "3 and not 4" + signs[j] + "3", !less[i] && !more[j]);
+            }
         }
     }
 
@@ -746,6 +776,26 @@ public final class TextEdgesTest {
             asked(p + " and " + q + " and " + r, a && b && c);
             probesOf(small(), "if " + p + " then if " + q + " then 1 else 2 end else if " + r + " then 3 else 4 end end",
                 a ? b ? 1 : 2 : c ? 3 : 4);
+        }
+    }
+
+    private static void chosen() {
+        sum("if 1=1 then 3 else 4 end*2+1", "7");
+        sum("if 1=2 then 3 else 4 end*2+1", "9");
+        sum("1+if 1=1 then 3 else 4 end*2", "7");
+        sum("1+if 1=2 then 3 else 4 end*2", "9");
+        sum("if 1=1 then 3 else 4 end-if 1=2 then 3 else 4 end", "-1");
+        sum("if if 1=1 then 3 else 4 end=3 then if 1=2 then 5 else 6 end else if 1=1 then 7 else 8 end end+1", "7");
+        sum("if if 1=2 then 3 else 4 end=3 then if 1=2 then 5 else 6 end else if 1=1 then 7 else 8 end end+1", "8");
+        sum("-if 1=1 then 3 else 4 end", "-3");
+        sum("live if 1=1 then 0 else 1 end", "2");
+        sum("if 1=1 then 3+4 else 4*5 end", "7");
+        sum("if 1=2 then 3+4 else 4*5 end", "20");
+        for (String both : new String[] {"meshes 0;probes 7;", "probes 7;meshes 0;", "probes 7;give 1;meshes if 1=1 then 0 else 1 end;"}) {
+            Used pages = small();
+            Make.rule(pages, both);
+            Due.is("each law its own: " + both, pages.probes(), 7);
+            Due.is("each law its own: " + both, pages.meshes(0, 1), false);
         }
     }
 
