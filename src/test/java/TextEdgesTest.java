@@ -275,6 +275,15 @@ public final class TextEdgesTest {
         Due.is("played(1)", pages.played(1), NONE);
         Due.is("is(3)", pages.is(3), 1);
         Due.is("meshes(0, 0)", pages.meshes(0, 0), true);
+        pages = new Used();
+        Due.is("one that is longer than the next", Make.say(pages, "probes ---------5;"), NONE);
+        Due.is("another one", Make.say(pages, "probes 1*(-5-5"), NONE);
+        Make.rule(pages, "probes 5;");
+        Due.is("probes()", pages.probes(), 5);
+        Due.is("another one", Make.say(pages, "meshes --1 5;"), NONE);
+        Make.rule(pages, "meshes -1;");
+        pages.give(1);
+        Due.is("meshes(0, 0)", pages.meshes(0, 0), false);
         for (int i = 0; i < 3; i++) {
             Make.say(pages, "compact;".repeat(25));
         }
